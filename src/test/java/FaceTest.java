@@ -1,0 +1,43 @@
+import java.lang.reflect.Constructor;
+import java.lang.reflect.Field;
+import java.lang.reflect.Method;
+import java.lang.reflect.Modifier;
+import java.util.Set;
+import java.util.TreeSet;
+
+/** LANGUAGE.md's rule 1: the document's face, and nothing else that can be seen from outside. */
+public final class FaceTest {
+    private static final Set<String> FACE = Set.of("sign", "read", "field", "overlap", "layout", "screen",
+        "fill", "octet", "take", "differ", "program", "group", "told");
+
+    public static void main(String[] args) {
+        Set<String> seen = new TreeSet<>();
+        for (Method m : MapText.class.getDeclaredMethods()) {
+            if (Modifier.isPrivate(m.getModifiers())) {
+                Check.due("private method named as of the face: " + m, FACE.contains(m.getName()) ? 1 : 0, 0);
+            } else {
+                Check.due("public: " + m, Modifier.isPublic(m.getModifiers()) ? 1 : 0, 1);
+                seen.add(m.getName());
+            }
+        }
+        Check.due("the methods", seen.toString(), new TreeSet<>(FACE).toString());
+        for (Field f : MapText.class.getDeclaredFields()) {
+            boolean none = f.getName().equals("NONE") && Modifier.isPublic(f.getModifiers());
+            Check.due("private: " + f, none || Modifier.isPrivate(f.getModifiers()) ? 1 : 0, 1);
+            if (Modifier.isStatic(f.getModifiers())) {
+                Check.due("final: " + f, Modifier.isFinal(f.getModifiers()) ? 1 : 0, 1);
+            }
+        }
+        Constructor<?>[] made = MapText.class.getDeclaredConstructors();
+        Check.due("constructors", made.length, 1);
+        Check.due("the constructor is public", Modifier.isPublic(made[0].getModifiers()) ? 1 : 0, 1);
+        Check.due("the class is final", Modifier.isFinal(MapText.class.getModifiers()) ? 1 : 0, 1);
+        for (Class<?> inside : MapText.class.getDeclaredClasses()) {
+            Check.due("static: " + inside, Modifier.isStatic(inside.getModifiers()) ? 1 : 0, 1);
+            for (Method m : inside.getDeclaredMethods()) {
+                Check.due("named as of the face: " + m, FACE.contains(m.getName()) ? 1 : 0, 0);
+            }
+        }
+        Check.end();
+    }
+}
