@@ -36,9 +36,9 @@ public final class MapText {
     private static final int DOES_NOT_FIT = 4;
     private static final int TOO_MANY = 5;
 
-    private static final byte LINE_END = 10;
-    private static final byte BLANK = 32;
-    private static final byte LAST_SIGN = 126;
+    private static final int LINE_END = 10;
+    private static final int BLANK = 32;
+    private static final int LAST_SIGN = 126;
 
     private final byte[] text = new byte[MOST_SIGNS];
     private int signs;
@@ -163,7 +163,7 @@ public final class MapText {
         if (m == null) {
             return MISSING;
         }
-        if (m != intake.map) {
+        if (intake.map == null || intake.map.number != map) {
             intake.startAnew(m);
         }
         return intake.next(b);
@@ -265,6 +265,7 @@ public final class MapText {
         final int attributes;
         boolean occurs;
         int times = 1;
+        int width;
         int groupNumber;
         boolean pictured;
         int decimals;
@@ -281,6 +282,7 @@ public final class MapText {
             this.column = column;
             this.length = length;
             this.attributes = attributes;
+            this.width = length + 1;
         }
 
         boolean isLabel() {
@@ -295,14 +297,6 @@ public final class MapText {
             return (marks & mark) != 0;
         }
 
-        int widthOf(int howOften) {
-            return (length + 1) * howOften;
-        }
-
-        int width() {
-            return widthOf(times);
-        }
-
         int timeBytes() {
             return TIME_HEAD + length;
         }
@@ -313,11 +307,11 @@ public final class MapText {
 
         boolean standsOver(int otherRow, int otherColumn, int otherWidth) {
             return row == otherRow && column < otherColumn + otherWidth
-                && otherColumn < column + width();
+                && otherColumn < column + width;
         }
 
         boolean endsJustAheadOf(Field next) {
-            return row == next.row && column + width() == next.column;
+            return row == next.row && column + width == next.column;
         }
 
         boolean isAs(Field other) {
@@ -392,7 +386,7 @@ public final class MapText {
             int width = 0;
             for (int i = 0; i < count; i++) {
                 if (fields[i].groupNumber == wanted) {
-                    width += fields[i].width();
+                    width += fields[i].width;
                 }
             }
             return width;
@@ -554,10 +548,27 @@ public final class MapText {
             if (!line.wellFormed) {
                 return NO_SUCH_LINE;
             }
+            if (line.word == 'M') {
+                return addMap();
+            }
+            if (line.word == 'F') {
+                return addField();
+            }
+            // A TEXT is too long by its field's length: fault 1, ahead of all the others.
+            if (line.word == 'I' && latest != null && line.shownTo - line.shownFrom > latest.length) {
+                return NO_SUCH_LINE;
+            }
+            if (map == null || latest == null) {
+                return BELONGS_NOWHERE;
+            }
             switch (line.word) {
-                case 'M': return addMap();
-                case 'F': return addField();
-                default: return tellLatest(text);
+                case 'O': return tellTimes();
+                case 'G': return tellGroup();
+                case 'P': return tellPicture();
+                case 'V': return tellMarks();
+                case 'C': return tellCursor();
+                case 'I': return tellShown(text);
+                default: return NO_SUCH_LINE;
             }
         }
 
@@ -625,38 +636,21 @@ public final class MapText {
             return false;
         }
 
-        private int tellLatest(byte[] text) {
-            // A TEXT is too long by its field's length: fault 1, ahead of all the others.
-            if (line.word == 'I' && latest != null && line.shownTo - line.shownFrom > latest.length) {
-                return NO_SUCH_LINE;
-            }
-            if (map == null || latest == null) {
-                return BELONGS_NOWHERE;
-            }
-            switch (line.word) {
-                case 'O': return tellTimes();
-                case 'G': return tellGroup();
-                case 'P': return tellPicture();
-                case 'V': return tellMarks();
-                case 'C': return tellCursor();
-                case 'I': return tellShown(text);
-                default: return NO_SUCH_LINE;
-            }
-        }
-
         private int tellTimes() {
             if (!line.fits(0, 1, MOST_TIMES)) {
                 return WRONG_NUMBER;
             }
             int times = line.numbers[0];
+            int width = (latest.length + 1) * times;
             // The document names lying over another field ahead of labels and of O again,
             // so overlap() tells of it then, too.
-            if (!liesFree(map.count - 1, latest.row, latest.column, latest.widthOf(times))
+            if (!liesFree(map.count - 1, latest.row, latest.column, width)
                 || latest.isLabel() || latest.occurs) {
                 return DOES_NOT_FIT;
             }
             latest.occurs = true;
             latest.times = times;
+            latest.width = width;
             return NO_FAULT;
         }
 
@@ -726,7 +720,7 @@ public final class MapText {
 
         void edit(Field f, int v) {
             length = f.length;
-            Arrays.fill(bytes, BLANK);
+            Arrays.fill(bytes, (byte) BLANK);
             int first = writeDigits(f, Math.abs((long) v));
             if (v < 0) {
                 first = writeMinus(f, first);
@@ -771,7 +765,7 @@ public final class MapText {
 
         private void moveToTheLeft(int first) {
             System.arraycopy(bytes, first, bytes, 0, length - first);
-            Arrays.fill(bytes, length - first, length, BLANK);
+            Arrays.fill(bytes, length - first, length, (byte) BLANK);
         }
     }
 

@@ -19,12 +19,17 @@ final class Check {
         }
     }
 
+    /** A text in fours, as sign() takes them; the last one filled with bytes that are left out. */
+    static int[] fours(String text) {
+        int[] all = new int[(text.length() + 3) / 4];
+        for (int i = 0; i < all.length * 4; i++) {
+            all[i / 4] = all[i / 4] << 8 | (i < text.length() ? text.charAt(i) : 0);
+        }
+        return all;
+    }
+
     static void put(MapText x, String text) {
-        for (int at = 0; at < text.length(); at += 4) {
-            int c = 0;
-            for (int i = at; i < at + 4; i++) {
-                c = c << 8 | (i < text.length() ? text.charAt(i) : 0);
-            }
+        for (int c : fours(text)) {
             x.sign(c);
         }
     }

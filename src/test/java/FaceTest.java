@@ -5,7 +5,7 @@ import java.lang.reflect.Modifier;
 import java.util.Set;
 import java.util.TreeSet;
 
-/** LANGUAGE.md's rule 1: the document's face, and nothing else that can be seen from outside. */
+/** LANGUAGE.md's rules 1 and 5: the document's face and nothing else seen from outside, constants alone static. */
 public final class FaceTest {
     private static final Set<String> FACE = Set.of("sign", "read", "field", "overlap", "layout", "screen",
         "fill", "octet", "take", "differ", "program", "group", "told");
@@ -26,6 +26,7 @@ public final class FaceTest {
             Check.due("private: " + f, none || Modifier.isPrivate(f.getModifiers()) ? 1 : 0, 1);
             if (Modifier.isStatic(f.getModifiers())) {
                 Check.due("final: " + f, Modifier.isFinal(f.getModifiers()) ? 1 : 0, 1);
+                Check.due("an int: " + f, f.getType() == int.class ? 1 : 0, 1);
             }
         }
         Constructor<?>[] made = MapText.class.getDeclaredConstructors();

@@ -19,6 +19,7 @@ public final class ReadTest {
         again();
         tooMany();
         firstOfFaults();
+        nothingIsLeftOver();
         Check.end();
     }
 
@@ -131,6 +132,8 @@ public final class ReadTest {
         Check.noFault(MAP + "F 1 1 16 4 0");
         Check.faultInLastLine(MAP + "F 1 1 17 4 0", 4);
         Check.faultInLastLine(MAP + "F 1 1 1 20 0", 4);
+        Check.faultInLastLine("M 1 1 80\nF 1 1 1 80 0", 4);
+        Check.noFault("M 1 1 80\nF 1 1 1 79 0");
         Check.noFault(FIELD + "O 4");
         Check.faultInLastLine(FIELD + "O 5", 4);
         Check.noFault(FIELD + "F 2 1 6 4 0");
@@ -214,5 +217,16 @@ public final class ReadTest {
         MapText x = new MapText();
         Check.due("the first line of two with faults", Check.read(x, "M 1 1 1\nF 1 1 1 9 0\nQ"), -3);
         Check.due("its fault", x.told(0), 4);
+    }
+
+    private static void nothingIsLeftOver() {
+        MapText x = new MapText();
+        Check.read(x, FIELD + "Q");
+        Check.due("no map of the text before", Check.read(x, "F 2 2 1 1 0"), -2);
+        Check.due("its fault", x.told(0), 2);
+        Check.read(x, FIELD);
+        Check.due("no field of the text before", Check.read(x, "I ABCDE"), -2);
+        Check.due("its fault", x.told(0), 2);
+        Check.due("the same map again", Check.read(x, FIELD), 1);
     }
 }

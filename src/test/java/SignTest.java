@@ -50,5 +50,9 @@ public final class SignTest {
         Check.due("told(4) beyond", x.told(4), 3000);
         Check.due("read() of blanks and a *", x.read(), 0);
         Check.due("told(4)", x.told(4), 0);
+        for (int i = 0; i < 800; i++) {
+            x.sign(0x20202020);
+        }
+        Check.due("read() of blanks alone", x.read(), 0);
     }
 }

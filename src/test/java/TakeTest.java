@@ -96,6 +96,16 @@ public final class TakeTest {
         Check.due("all", takeAll(x, 1, bytes), 4);
         bytes[13] = 1;
         Check.due("three times", takeAll(x, 1, bytes), 3);
+        MapText y = Check.withText("M 1 3 9\nF 1 1 1 1 0\nO 2\nF 2 2 1 2 2\nO 3\nF 3 3 1 1 0\nV 1");
+        int[] more = {0, 1, 0, 'a', 0, 2, 0, 'a', 0, 2, 0, '1', '2', 0, 1, 0, '1', 'x', 0, 2, 0, '1', 'x', 0, 1, 0, 'a'};
+        Check.due("fields that occur behind one another", takeAll(y, 1, more), 4);
+        more[24] = 0;
+        Check.due("the last one isn't good", takeAll(y, 1, more), 3);
+        MapText z = Check.withText("M 1 3 9\nF 1 1 1 1 0\nO 2\nM 2 3 9\nF 1 1 1 1 0\nO 2");
+        for (int i = 0; i < 17; i++) {
+            z.take(1, (byte) 0);
+        }
+        Check.due("another map, amid the second time", takeAll(z, 2, 0, 0, 0, 0, 0, 9, 0, 0), 1);
     }
 
     private static void startsAnew() {
