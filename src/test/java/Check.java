@@ -28,19 +28,19 @@ final class Check {
         return all;
     }
 
-    static void put(MapText x, String text) {
+    static void put(Run x, String text) {
         for (int c : fours(text)) {
             x.sign(c);
         }
     }
 
-    static int read(MapText x, String text) {
+    static int read(Run x, String text) {
         put(x, text);
         return x.read();
     }
 
-    static MapText withText(String text) {
-        MapText x = new MapText();
+    static Run withText(String text) {
+        Run x = new Run();
         if (read(x, text) < 0) {
             wrong++;
             System.out.println("fault " + x.told(0) + " in line " + x.told(1) + " of " + text);
@@ -48,39 +48,10 @@ final class Check {
         return x;
     }
 
-    /** The text has this fault in its last line. */
-    static void faultInLastLine(String text, int fault) {
-        MapText x = new MapText();
-        int line = text.split("\n", -1).length;
-        String shown = text.replace("\n", "|");
-        due("read() of " + shown, read(x, text), -1 - line);
-        due("told(0) of " + shown, x.told(0), fault);
-        due("told(1) of " + shown, x.told(1), line);
-        due("told(2) of " + shown, x.told(2), 0);
-    }
-
-    static void noFault(String text) {
-        MapText x = new MapText();
-        put(x, text);
-        x.read();
-        due("told(0) of " + text.replace("\n", "|"), x.told(0), 0);
-        due("told(2) of " + text.replace("\n", "|"), x.told(2), 1);
-    }
-
-    /** octet()'s byte, or 1000 when it throws as the document says. */
-    static int octet(MapText x, int i) {
-        try {
-            return x.octet(i);
-        } catch (ArrayIndexOutOfBoundsException e) {
-            due("the machine threw in octet(" + i + ") (1 yes, 0 no)", e.getMessage() == null ? 0 : 1, 0);
-            return 1000;
-        }
-    }
-
-    static String octets(MapText x, int count) {
+    static String octets(Run x, int count) {
         StringBuilder all = new StringBuilder();
         for (int i = 0; i < count; i++) {
-            all.append((char) octet(x, i));
+            all.append((char) x.octet(i));
         }
         return all.toString();
     }

@@ -16,31 +16,76 @@ public final class DifferTest {
         differing("maps the other way round", "M 2 1 9\nF 1 1 1 1 0\nM 1 3 20\nF 1 1 1 4 0\nF 2 1 6 2 0\nO 2", 0);
         differing("another map's fields", "M 2 3 20\nF 1 1 1 4 0\nF 2 1 6 2 0\nO 2", 2);
         differing("fields the other way round", "M 1 3 20\nF 2 1 6 2 0\nO 2\nF 1 1 1 4 0", 2);
+        eachAlone();
+        manyFields();
         noSuch();
         Check.end();
     }
 
     private static void differing(String how, String text, int want) {
-        MapText x = Check.withText(FIRST);
+        Run x = Check.withText(FIRST);
         Check.due("differ(1) with itself", x.differ(1), 0);
         Check.due(how + ": a fault", Check.read(x, text) < 0 ? 1 : 0, 0);
         Check.due("differ(1): " + how, x.differ(1), want);
         Check.due("differ(2) with itself: " + how, x.differ(2), 0);
     }
 
+    /** "-2 no such edition": 0, and one more than there are, for each count of editions. */
     private static void noSuch() {
-        MapText x = Check.withText(FIRST);
-        Check.read(x, "Q");
-        int[] none = {0, 2, 6, 7, -1, Integer.MAX_VALUE, Integer.MIN_VALUE};
-        for (int edition : none) {
-            Check.due("differ(" + edition + ")", x.differ(edition), -2);
+        Run x = new Run();
+        int[] none = {0, -1, 7, 8, Integer.MAX_VALUE, Integer.MIN_VALUE};
+        for (int count = 0; count <= 6; count++) {
+            for (int edition : none) {
+                Check.due("differ(" + edition + ") of " + count, x.differ(edition), -2);
+            }
+            for (int edition = 1; edition <= 6; edition++) {
+                int due = edition > count ? -2 : edition == count ? 0 : 1;
+                Check.due("differ(" + edition + ") of " + count, x.differ(edition), due);
+            }
+            Check.due("a fault makes none", Check.read(x, "Q"), count == 6 ? -1 : -2);
+            Check.read(x, "M 1 1 9\nF 1 1 1 " + (count + 1) + " 0");
         }
-        for (int i = 2; i <= 6; i++) {
-            Check.read(x, i == 6 ? FIRST : "");
+        Check.due("a seventh makes none", x.differ(7), -2);
+        Check.due("the sixth is at hand", x.differ(6), 0);
+    }
+
+    /** "there is no such map or field there, or another length, times, or place": each alone, and all at once. */
+    private static void eachAlone() {
+        alone("no such map", "M 2 1 80", 1);
+        alone("no such field", "M 1 1 80\nF 8 1 1 4 0\nO 3", 1);
+        alone("another length", "M 1 1 80\nF 9 1 1 5 0\nO 3", 1);
+        alone("other times", "M 1 1 80\nF 9 1 1 4 0\nO 2", 1);
+        alone("another place", "M 1 1 80\nF 8 1 60 1 0\nF 9 1 1 4 0\nO 3", 1);
+        alone("all of these", "M 1 1 80\nF 8 1 60 1 0\nF 9 1 1 5 0", 1);
+        alone("none of these", "M 1 1 80\nF 9 1 1 4 0\nO 3\nF 8 1 60 1 0", 0);
+        alone("a label in its place", "M 1 1 80\nF 0 1 1 4 0", 1);
+        alone("the same length and bytes by times", "M 1 1 80\nF 9 1 1 18 0", 1);
+    }
+
+    private static void alone(String how, String then, int want) {
+        Run x = Check.withText(then);
+        Check.due(how + ": maps", Check.read(x, "M 1 1 80\nF 9 1 1 4 0\nO 3"), 1);
+        Check.due("differ(1): " + how, x.differ(1), want);
+        Check.due("differ(2): " + how, x.differ(2), 0);
+    }
+
+    /** "fields of all maps at hand": 8 maps, and 30 fields of one. */
+    private static void manyFields() {
+        Run x = Check.withText("");
+        StringBuilder text = new StringBuilder();
+        for (int n = 1; n <= 8; n++) {
+            text.append("M ").append(n).append(" 1 9\nF 1 1 1 1 0\nF 0 1 9 0 0\n");
         }
-        Check.due("differ(1) of six", x.differ(1), 0);
-        Check.due("differ(5) of six", x.differ(5), 3);
-        Check.due("differ(6) of six", x.differ(6), 0);
-        Check.due("differ(7) of six", x.differ(7), -2);
+        Check.due("8 maps", Check.read(x, text.toString()), 8);
+        Check.due("a field of each", x.differ(1), 8);
+        StringBuilder fields = new StringBuilder("M 1 1 80\n");
+        for (int i = 1; i <= 30; i++) {
+            fields.append("F ").append(i).append(" 1 ").append(2 * i).append(" 1 0\n");
+        }
+        Check.due("a map of 30 fields", Check.read(x, fields.toString()), 1);
+        Check.due("30 fields", x.differ(1), 30);
+        Check.due("29 fields, for the first is as it was", x.differ(2), 29);
+        Check.due("no maps at hand", Check.read(x, ""), 0);
+        Check.due("no fields", x.differ(2), 0);
     }
 }

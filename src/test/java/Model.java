@@ -318,6 +318,10 @@ final class Model {
         return length;
     }
 
+    String edited() {
+        return edited;
+    }
+
     int octet(int i) {
         return i < 0 || i >= edited.length() ? 1000 : edited.charAt(i);
     }

@@ -18,11 +18,13 @@ public final class OverlapTest {
         over("M 1 2 20\nF 1 1 1 2 0\nF 2 1 1 2 16", -1, -1);
         overOfThirty();
         latestReadAlone();
+        notWithSix();
+        staysUntilTheNextRead();
         Check.end();
     }
 
     private static void over(String text, int earlier, int newer) {
-        MapText x = new MapText();
+        Run x = new Run();
         String shown = text.replace("\n", "|");
         Check.due("a fault in " + shown, Check.read(x, text) < 0 ? 1 : 0, 1);
         Check.due("overlap(0, 0) of " + shown, x.overlap(0, 0), earlier);
@@ -45,7 +47,7 @@ public final class OverlapTest {
     }
 
     private static void latestReadAlone() {
-        MapText x = new MapText();
+        Run x = new Run();
         String over = "M 1 2 20\nF 1 1 1 4 0\nF 2 1 4 2 0";
         Check.read(x, over);
         Check.read(x, "Q");
@@ -54,5 +56,36 @@ public final class OverlapTest {
         Check.due("overlap", x.overlap(0, 1), 1);
         Check.read(x, "");
         Check.due("overlap behind an edition", x.overlap(0, 1), -1);
+    }
+
+    /** read() with six editions is NONE and nothing else, so it tells of no field over another. */
+    private static void notWithSix() {
+        Run x = new Run();
+        for (int i = 1; i <= 5; i++) {
+            x.read();
+        }
+        String over = "M 1 2 20\nF 1 1 1 4 0\nF 2 1 4 2 0";
+        Check.due("a fault", Check.read(x, over), -4);
+        Check.due("overlap(0, 1)", x.overlap(0, 1), 1);
+        Check.due("the sixth", x.read(), 0);
+        Check.due("overlap(0, 1) behind the sixth", x.overlap(0, 1), -1);
+        Check.due("a seventh", Check.read(x, over), -1);
+        Check.due("overlap(0, 0) behind a seventh", x.overlap(0, 0), -1);
+        Check.due("overlap(0, 1) behind a seventh", x.overlap(0, 1), -1);
+    }
+
+    /** It stays until the next read(), whatever else is called. */
+    private static void staysUntilTheNextRead() {
+        Run x = Edges.busy();
+        Check.read(x, "M 1 2 20\nF 0 1 9 4 0\nF 1 1 1 4 0\nF 2 1 4 2 0");
+        Edges.answers(x);
+        x.fill(50, 3, 1);
+        x.take(50, 1);
+        Check.put(x, "Q");
+        Check.due("overlap(0, 0)", x.overlap(0, 0), 1);
+        Check.due("overlap(0, 1)", x.overlap(0, 1), 2);
+        x.read();
+        Check.due("overlap(0, 0) behind read()", x.overlap(0, 0), -1);
+        Check.due("overlap(0, 1) behind read()", x.overlap(0, 1), -1);
     }
 }

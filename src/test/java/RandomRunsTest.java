@@ -2,14 +2,12 @@ import java.util.Random;
 
 /** Many runs of calls, always the same ones; each answer against the Model's. */
 public final class RandomRunsTest {
-    private static final int RUNS = 4000;
-    private static final int CALLS = 512;
+    private static final int RUNS = 6000;
 
     private final Random random;
-    private final MapText x = new MapText();
+    private final Run x = new Run();
     private final Model model = new Model();
     private final String run;
-    private int calls;
 
     private RandomRunsTest(int seed) {
         random = new Random(seed);
@@ -24,26 +22,32 @@ public final class RandomRunsTest {
     }
 
     private void go() {
-        while (calls < CALLS) {
-            String text = random.nextInt(30) == 0 ? noise() : lines();
+        String text = nextText();
+        while (x.left() >= Check.fours(text).length + 4) {
             put(text);
             Check.due(run + "told(4)", x.told(4), model.told(4));
             Check.due(run + "read() of " + text.replace("\n", "|"), x.read(), model.read());
-            calls += 2;
             Check.due(run + "overlap(0, 0)", x.overlap(0, 0), model.overlap(0, 0));
             Check.due(run + "overlap(0, 1)", x.overlap(0, 1), model.overlap(0, 1));
             int asks = random.nextInt(60);
-            for (int i = 0; i < asks; i++) {
+            for (int i = 0; i < asks && x.left() > 0; i++) {
                 ask();
             }
+            text = nextText();
         }
+        while (x.left() > 0) {
+            ask();
+        }
+    }
+
+    private String nextText() {
+        return random.nextInt(30) == 0 ? noise() : lines();
     }
 
     private void put(String text) {
         for (int c : Check.fours(text)) {
             x.sign(c);
             model.sign(c);
-            calls++;
         }
     }
 
@@ -147,7 +151,6 @@ public final class RandomRunsTest {
     private void ask() {
         int map = around(1, 2);
         int name = around(1, 5);
-        calls++;
         switch (random.nextInt(10)) {
             case 0: askField(map, around(0, 4), around(0, 9)); break;
             case 1: askLayout(map, around(0, 5), around(0, 3)); break;
@@ -180,14 +183,14 @@ public final class RandomRunsTest {
     private void askFill(int map, int name, int v) {
         int length = model.fill(map, name, v);
         Check.due(run + "fill(" + map + ", " + name + ", " + v + ")", x.fill(map, name, v), length);
-        for (int i = -1; i <= Math.max(0, length); i++) {
-            Check.due(run + "octet(" + i + ") behind fill of " + v, Check.octet(x, i), model.octet(i));
+        for (int i = -1; i <= Math.max(0, length) && x.left() > 0; i++) {
+            Check.due(run + "octet(" + i + ") behind fill of " + v, x.octet(i), model.octet(i));
         }
     }
 
     private void askTake(int map) {
         int bytes = random.nextInt(6) == 0 ? 1 + upTo(9) : Math.max(1, model.layout(map, 0, 0) + upTo(2) - 1);
-        for (int i = 0; i < bytes; i++) {
+        for (int i = 0; i < bytes && x.left() >= 2; i++) {
             byte b = someByte();
             Check.due(run + "take(" + map + ", " + b + ")", x.take(map, b), model.take(map, b));
             Check.due(run + "told(5)", x.told(5), model.told(5));
