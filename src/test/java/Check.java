@@ -48,6 +48,15 @@ final class Check {
         return x;
     }
 
+    /** Maps 1 to that count, each of one place. */
+    static String maps(int count) {
+        StringBuilder all = new StringBuilder();
+        for (int n = 1; n <= count; n++) {
+            all.append("M ").append(n).append(" 1 1\n");
+        }
+        return all.toString();
+    }
+
     static String octets(Run x, int count) {
         StringBuilder all = new StringBuilder();
         for (int i = 0; i < count; i++) {

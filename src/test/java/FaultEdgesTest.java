@@ -23,14 +23,6 @@ public final class FaultEdgesTest {
         Check.end();
     }
 
-    private static String maps(int count) {
-        StringBuilder all = new StringBuilder();
-        for (int n = 1; n <= count; n++) {
-            all.append("M ").append(n).append(" 1 1\n");
-        }
-        return all.toString();
-    }
-
     /** A map of that number with fields in its first row, each second one a label. */
     private static String fields(int map, int count) {
         StringBuilder all = new StringBuilder("M " + map + " 2 80\n");
@@ -125,13 +117,13 @@ public final class FaultEdgesTest {
 
     /** "5 there are 8 maps". */
     private static void eightMaps() {
-        Edges.taken(maps(7));
-        Edges.taken(maps(8));
-        Edges.refused(maps(8) + "M 9 1 1", 5);
-        Edges.refused(maps(8) + "M 99 24 80", 5);
-        Edges.taken(maps(8) + "F 0 1 1 0 0\nC");
-        Edges.refused(maps(8) + "F 0 1 1 0 0\nC\nM 9 1 1", 5);
-        Run x = Check.withText(maps(8));
+        Edges.taken(Check.maps(7));
+        Edges.taken(Check.maps(8));
+        Edges.refused(Check.maps(8) + "M 9 1 1", 5);
+        Edges.refused(Check.maps(8) + "M 99 24 80", 5);
+        Edges.taken(Check.maps(8) + "F 0 1 1 0 0\nC");
+        Edges.refused(Check.maps(8) + "F 0 1 1 0 0\nC\nM 9 1 1", 5);
+        Run x = Check.withText(Check.maps(8));
         for (int n = 0; n <= 9; n++) {
             Check.due("map " + n, x.screen(n, 1, 1), n >= 1 && n <= 8 ? 32 : -1);
         }
@@ -171,7 +163,7 @@ public final class FaultEdgesTest {
         Edges.refused(FIELD + "I A\nI", 1);
         Edges.refused(FIELD + "C\nC 1", 1);
         Edges.refused(LABEL + "O 1 1", 1);
-        Edges.refused(maps(8) + "M 9 1", 1);
+        Edges.refused(Check.maps(8) + "M 9 1", 1);
         Edges.refused(fields(1, 30) + "F 99 2 1 1", 1);
     }
 
@@ -206,16 +198,16 @@ public final class FaultEdgesTest {
         Edges.refused(LABEL + "P 4 0 0", 3);
         Edges.refused(MAP + "F 0 1 1 0 0\nP 0 0 0", 3);
         Edges.refused(LABEL + "V 4", 3);
-        Edges.refused(maps(8) + "M 100 1 1", 3);
-        Edges.refused(maps(8) + "M 8 1 81", 3);
+        Edges.refused(Check.maps(8) + "M 100 1 1", 3);
+        Edges.refused(Check.maps(8) + "M 8 1 81", 3);
         Edges.refused(fields(1, 30) + "F 100 2 1 1 0", 3);
         Edges.refused(fields(1, 30) + "F 99 3 1 1 0", 3);
     }
 
     /** 4 ahead of 5. */
     private static void faultFourAhead() {
-        Edges.refused(maps(8) + "M 1 1 1", 4);
-        Edges.refused(maps(8) + "M 8 1 1", 4);
+        Edges.refused(Check.maps(8) + "M 1 1 1", 4);
+        Edges.refused(Check.maps(8) + "M 8 1 1", 4);
         Edges.refused(fields(1, 30) + "F 1 2 1 1 0", 4);
         Edges.refused(fields(1, 30) + "F 29 2 1 1 0", 4);
         Edges.refused(fields(1, 30) + "F 99 2 80 1 0", 4);
@@ -237,7 +229,7 @@ public final class FaultEdgesTest {
         Check.due("and again", Check.read(x, FIELD + "C\nG 1"), 1);
         Check.due("no field of the edition at hand", Check.read(x, "I ABCDE"), -2);
         Check.due("told(0)", x.told(0), 2);
-        Check.due("eight maps", Check.read(x, maps(8)), 8);
-        Check.due("eight maps again", Check.read(x, maps(8)), 8);
+        Check.due("eight maps", Check.read(x, Check.maps(8)), 8);
+        Check.due("eight maps again", Check.read(x, Check.maps(8)), 8);
     }
 }

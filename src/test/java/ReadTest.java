@@ -12,19 +12,11 @@ public final class ReadTest {
         Check.end();
     }
 
-    private static String maps(int count) {
-        StringBuilder all = new StringBuilder();
-        for (int n = 1; n <= count; n++) {
-            all.append("M ").append(n).append(" 1 1\n");
-        }
-        return all.toString();
-    }
-
     /** "how many maps": none, one, up to 8. */
     private static void howManyMaps() {
         for (int count = 0; count <= 8; count++) {
             Run x = new Run();
-            Check.due("read() of " + count, Check.read(x, maps(count)), count);
+            Check.due("read() of " + count, Check.read(x, Check.maps(count)), count);
             Check.due("told(3)", x.told(3), count);
             Check.due("told(2)", x.told(2), 1);
         }
@@ -97,7 +89,7 @@ public final class ReadTest {
     private static void sixEditions() {
         Run x = new Run();
         for (int edition = 1; edition <= 9; edition++) {
-            Check.due("read() number " + edition, Check.read(x, maps(edition % 4)), edition <= 6 ? edition % 4 : -1);
+            Check.due("read() number " + edition, Check.read(x, Check.maps(edition % 4)), edition <= 6 ? edition % 4 : -1);
             Check.due("told(2)", x.told(2), Math.min(edition, 6));
             Check.due("told(3)", x.told(3), edition <= 6 ? edition % 4 : 2);
         }

@@ -56,10 +56,9 @@ public final class ToldTest {
             Check.due("no fault", x.read(), 0);
             told(x, 0, 0, i + 1, 0, 0, 0);
         }
-        String eight = "M 1 1 1\nM 2 1 1\nM 3 1 1\nM 4 1 1\nM 5 1 1\nM 6 1 1\nM 7 1 1\nM 8 1 1\n";
-        Check.due("fault 5", Check.read(x, eight + "M 9 1 1"), -10);
+        Check.due("fault 5", Check.read(x, Check.maps(9)), -10);
         told(x, 5, 9, 4, 0, 0, 0);
-        Check.due("no fault", Check.read(x, eight), 8);
+        Check.due("no fault", Check.read(x, Check.maps(8)), 8);
         told(x, 0, 0, 5, 8, 0, 0);
     }
 
